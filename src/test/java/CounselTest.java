@@ -1,6 +1,9 @@
 /** Promises 16 to 35: what is best, shared, queued, frozen, otherwise, hung, paid and drawn. */
 public final class CounselTest {
     private static final int NONE = HeldCoats.NONE;
+    /** The third MAN comes to rule seldom and late, so that each of the twenty DAYS counts. */
+    private static final String ODDS = "seat s 9;seat t 8;man p 0;man q 3;man r 3;coat c p 1 9;coat d q 1 99;coat e q 1 99;coat f q 1 99;coat g r 0 9;"
+        + "moths 2;holds 3;cold 0 3;cold 9 1;cold 18 3;summer 2;";
     private static final int[] NO = {-1, 6, 8, 100, Integer.MIN_VALUE, Integer.MAX_VALUE};
 
     public static void main(String[] args) {
@@ -53,6 +56,12 @@ public final class CounselTest {
         Kit.due("17: the least two", z.laid(), 3);
         Kit.due("16: two in summer, too", z.best(0, 625), 108);
         Kit.due("17: not the warmest", z.laid(), 6);
+        HeldCoats all = Kit.of("seat a 1;seat b 1;seat c 2;seat d 3;seat e 4;seat f 5;seat g 6;seat h 1;man m 0;coat aa m 0 1;"
+            + "coat bb m 0 1;coat cc m 0 1;coat dd m 0 1;coat ee m 0 1;coat ff m 0 1;coat gg m 0 1;coat hh m 1 1;cold 0 1;");
+        Kit.due("16: eight", all.best(0, 1), 23);
+        Kit.due("17: eight", all.laid(), 255);
+        Kit.due("16: seven", all.best(0, 0), 22);
+        Kit.due("17: seven", all.laid(), 127);
     }
 
     private static void share() {
@@ -69,6 +78,8 @@ public final class CounselTest {
         Kit.due("19: none yet", x.turns(), NONE);
         Kit.due("18: bob's rug", x.share(0, 1, 2, 3), 75);
         Kit.due("19: bob's turns", x.turns(), 7);
+        Kit.due("18: one day", x.share(0, 1, 2, 1), 25);
+        Kit.due("19: one day", x.turns(), 1);
         Kit.due("18: the other way", x.share(1, 0, 2, 3), 75);
         Kit.due("19: nobody else's", x.turns(), 0);
         Kit.due("18: none", x.share(1, 1, 2, 3), NONE);
@@ -90,6 +101,11 @@ public final class CounselTest {
         Kit.due("19: all for the first", y.turns(), 0);
         Kit.due("18: days above 399", y.share(1, 0, 0, 30), 30 * 8);
         Kit.due("19: thirty", y.turns(), (1 << 30) - 1);
+        HeldCoats w = Kit.of("man p 3;man q 7;coat c p 6 1;cold 0 9;cold 1 11;cold 2 2;");
+        Kit.due("18: by hardy ones", w.share(0, 1, 0, 3), 0 + 4 + 4 + 16);
+        Kit.due("19: by hardy ones", w.turns(), 0);
+        Kit.due("18: by hardy ones", w.share(1, 0, 0, 3), 24);
+        Kit.due("19: by hardy ones", w.turns(), 3);
         HeldCoats z = Kit.of("man p 3;man q 3;coat c p 6 1;cold 0 9;");
         Kit.due("18: alike", z.share(0, 1, 0, 2), 72);
         Kit.due("19: of like ones the first man", z.turns(), 0);
@@ -148,6 +164,8 @@ public final class CounselTest {
         Kit.due("24: on the same day", y.frostAt(0, 1), 0);
         Kit.due("23: alike then", y.frost(0, 2), NONE);
         Kit.due("24: alike then", y.frostAt(0, 2), NONE);
+        Kit.due("23: the other way", Kit.of("man p 0;man q 1;cold 0 20;limit 300;").frost(0, 1), 1);
+        Kit.due("23: the other way", Kit.of("man p 0;man q 9;cold 0 20;").frost(0, 1), 1);
         HeldCoats z = Kit.of("man p 20;man q 0;cold 399 40;limit 999;");
         Kit.due("24: on day 399", z.frostAt(0, 1), 399);
         for (int k = 0; k < 7; k++) {
@@ -217,6 +235,8 @@ public final class CounselTest {
         Kit.due("28: no days", x.harm(0, 61), NONE);
         Kit.due("28: bob", x.harm(1, 5), 100);
         Kit.due("28: bob on", x.harm(1, 60), 100);
+        Kit.due("28: ann", x.harm(0, 1), 0);
+        Kit.due("28: cid", x.harm(2, 1), 1);
         x.days(3);
         Kit.due("28: more", x.harm(1, 5), 25);
         x.lay(2, 0);
@@ -247,6 +267,9 @@ public final class CounselTest {
         Kit.due("29: ways", Kit.hooks(x, 0, 9, 1), 2);
         Kit.due("30: rug", x.surely(), 4);
         Kit.due("31: shawl", x.never(), 8);
+        Kit.due("29: one way", Kit.hooks(x, 9, 2, 9), 1);
+        Kit.due("30: shawl", x.surely(), 8);
+        Kit.due("31: the others", x.never(), 7);
         Kit.due("29: orders", Kit.hooks(x, 0, 0, 9), 2);
         Kit.due("30: both", x.surely(), 3);
         Kit.due("31: the others", x.never(), 12);
@@ -302,6 +325,8 @@ public final class CounselTest {
         for (int seed : new int[] {1, 7, -5, Integer.MAX_VALUE, 123456789}) {
             drawnAs(Kit.COURT, seed, 60);
             drawnAs("man p 0;man q 1;coat c p 1 5;coat d q 1 5;cold 0 3;", seed, 7);
+            drawnAs("seat s 5;man p 0;man q 1;coat c p 1 5;coat d q 1 99;coat e p 0 99;cold 0 3;holds 2;", seed, 50);
+            drawnAs(ODDS, seed, 20);
         }
         Kit.due("34: sixty", x.drawn(60, 9), 60);
         Kit.due("34: day", x.now(0), 60);
@@ -358,12 +383,13 @@ public final class CounselTest {
         Kit.due("35: too many", x.odds(0, 31, 1), NONE);
         Kit.due("35: no coats", Kit.of("seat s 1;man m 0;").odds(0, 1, 1), NONE);
         Kit.due("35: no seats", Kit.of("man m 0;coat c m 0 1;").odds(0, 30, 1), 0);
-        HeldCoats y = Kit.of("seat s 9;seat t 8;man p 0;man q 3;coat c p 1 9;coat d q 1 9;moths 2;holds 3;cold 0 3;cold 9 1;summer 2;");
+        HeldCoats y = Kit.of(ODDS);
         y.days(2);
         for (int seed : new int[] {0, 77, Integer.MAX_VALUE - 3, -9}) {
-            for (int m = 0; m < 2; m++) {
+            for (int m = 0; m < 3; m++) {
                 Kit.due("35: odds", y.odds(m, 30, seed), oddsAs(m, 30, seed));
                 Kit.due("35: odds", y.odds(m, 7, seed), oddsAs(m, 7, seed));
+                Kit.due("35: odds", y.odds(m, 1, seed), oddsAs(m, 1, seed));
             }
         }
         Kit.due("35: nothing changed", y.now(0), 2);
@@ -377,7 +403,7 @@ public final class CounselTest {
     private static int oddsAs(int m, int n, int seed) {
         int by = 0;
         for (int k = 0; k < n; k++) {
-            HeldCoats y = Kit.of("seat s 9;seat t 8;man p 0;man q 3;coat c p 1 9;coat d q 1 9;moths 2;holds 3;cold 0 3;cold 9 1;summer 2;");
+            HeldCoats y = Kit.of(ODDS);
             y.days(2);
             y.drawn(20, seed + k);
             by += y.man(m, 6) > 0 ? 1 : 0;

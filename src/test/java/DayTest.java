@@ -14,6 +14,8 @@ public final class DayTest {
         cold();
         lastDays();
         undoing();
+        eachUndone();
+        anew();
         Kit.finish("DayTest");
     }
 
@@ -284,6 +286,69 @@ public final class DayTest {
         Kit.sentence(x, "not bare");
         x.undo();
         Kit.due("15: the sentence stays", x.said(NONE), 0);
+    }
+
+    /** Behind every act all is undone to the letter. */
+    private static void eachUndone() {
+        HeldCoats x = Kit.court();
+        x.lay(0, 0);
+        x.lay(2, 1);
+        x.days(1);
+        x.keep(3);
+        x.lend(1, 2);
+        x.lend(3, 1);
+        for (int act = 0; act < 8; act++) {
+            // to and fro, so that no act begins as the one before
+            Kit.due("12: lend", x.lend(2, act % 2 == 0 ? 2 : 1), 0);
+            String before = Kit.all(x);
+            int answer = switch (act) {
+                case 0 -> x.lay(1, 2);
+                case 1 -> x.wear(1, 3);
+                case 2 -> x.wear(1, 2);
+                case 3 -> x.lend(0, 2);
+                case 4 -> x.keep(1);
+                case 5 -> x.days(9) - 9;
+                case 6 -> x.drawn(9, 3) - 9;
+                default -> Kit.book(x, "cid wears shawl;day 5;shawl lies stool;rug kept;", 1) - 3;
+            };
+            Kit.due("10 to 14, 34, 36: act " + act, answer, 0);
+            Kit.due("15: act " + act + " is seen", Kit.all(x).equals(before), false);
+            x.undo();
+            Kit.due("15: act " + act + " undone", Kit.all(x).equals(before), true);
+        }
+    }
+
+    private static void anew() {
+        HeldCoats x = Kit.court();
+        String before = Kit.all(x);
+        x.days(1);
+        x.lay(0, 0);
+        x.keep(3);
+        x.lend(1, 1);
+        x.days(2);
+        Kit.capital(x, Kit.COURT);
+        Kit.due("4: a new one is as at first", Kit.all(x).equals(before), true);
+        x.lay(1, 0);
+        man("7: holds the first seat", x, 0, 3, 1, 0, 1, 1, 50, 0, 3);
+        Kit.due("6: lain", x.seat(0, 3), 0);
+        HeldCoats y = new HeldCoats();
+        Kit.due("9: bare", y.now(5), NONE);
+        y.days(2);
+        Kit.due("9: bare", y.now(5), 0);
+        HeldCoats z = Kit.of("seat a 1;seat b 2;seat c 3;seat d 4;seat e 5;seat f 6;seat g 7;seat h 8;man p 0;man q 0;"
+            + "coat aa p 1 9;coat bb p 1 9;coat cc q 1 9;coat dd p 1 9;coat ee p 1 9;coat ff q 1 9;coat gg p 1 9;coat hh p 1 9;");
+        for (int c = 0; c < 8; c++) {
+            Kit.due("10: lay on each", z.lay(c, 7 - c), 0);
+        }
+        Kit.due("7: seats", z.man(0, 4), 0xdb);
+        Kit.due("7: worth", z.man(0, 5), 36 - 9);
+        Kit.due("7: worth", z.man(1, 5), 9);
+        Kit.due("9: ruler", z.now(3), 0);
+        z.days(8);
+        Kit.due("8: eight days", z.coat(7, 2), 1);
+        z.days(1);
+        Kit.due("9: all are eaten, though holds end", z.now(7), 255);
+        Kit.due("9: none is kept", z.now(6), 0);
     }
 
     private static void man(String what, HeldCoats x, int m, int... want) {

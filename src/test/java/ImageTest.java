@@ -35,23 +35,23 @@ public final class ImageTest {
         x.lend(2, 2);
         x.days(2);
         x.image(0);
-        String before = all(x);
+        String before = Kit.all(x);
         Kit.capital(x, "seat z 9;man q 1;coat fur q 3 3;cold 0 4;limit 7;");
         x.image(1);
-        String other = all(x);
+        String other = Kit.all(x);
         Kit.due("41: other", before.equals(other), false);
         Kit.due("41: restored", x.restore(0), true);
-        Kit.due("41: all is as kept: " + all(x), all(x).equals(before), true);
+        Kit.due("41: all is as kept: " + Kit.all(x), Kit.all(x).equals(before), true);
         Kit.due("41: the sentence, too", x.said(NONE), 2);
         Kit.due("41: the names, too", Kit.book(x, "ann wears shawl;", 0), 0);
         x.wear(2, 3);
         x.days(5);
         Kit.sentence(x, "held");
         Kit.due("41: again", x.restore(0), true);
-        Kit.due("41: all is as kept", all(x).equals(before), true);
+        Kit.due("41: all is as kept", Kit.all(x).equals(before), true);
         Kit.due("41: nothing can be undone", x.undo(), NONE);
         Kit.due("41: the other place", x.restore(1), true);
-        Kit.due("41: all is as kept", all(x).equals(other), true);
+        Kit.due("41: all is as kept", Kit.all(x).equals(other), true);
         Kit.due("41: no sentence", x.said(NONE), NONE);
         x.lay(0, 0);
         Kit.due("15: from then on", x.undo(), 0);
@@ -96,22 +96,5 @@ public final class ImageTest {
         }
         x.feed(0, 0, 0, 0, 0);
         Kit.due("42: bytes", x.count(7), 20);
-    }
-
-    private static String all(HeldCoats x) {
-        StringBuilder b = new StringBuilder();
-        for (int what = 0; what < 8; what++) {
-            b.append(what < 7 ? x.count(what) : 0).append(' ').append(x.now(what)).append(' ').append(x.queue(what)).append(' ');
-            for (int m = 0; m < x.count(1); m++) {
-                b.append(x.man(m, what)).append(' ');
-            }
-            for (int c = 0; c < x.count(2) && what < 5; c++) {
-                b.append(x.coat(c, what)).append(' ');
-            }
-            for (int s = 0; s < x.count(0) && what < 4; s++) {
-                b.append(x.seat(s, what)).append(' ');
-            }
-        }
-        return b.append(x.said(NONE)).append(' ').append(x.harm(0, 60)).toString();
     }
 }

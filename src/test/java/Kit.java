@@ -112,4 +112,22 @@ final class Kit {
         }
         return bits;
     }
+
+    /** All that is so, as one text. */
+    static String all(HeldCoats x) {
+        StringBuilder b = new StringBuilder();
+        for (int what = 0; what < 8; what++) {
+            b.append(what < 7 ? x.count(what) : 0).append(' ').append(x.now(what)).append(' ').append(x.queue(what)).append(' ');
+            for (int m = 0; m < x.count(1); m++) {
+                b.append(x.man(m, what)).append(' ');
+            }
+            for (int c = 0; c < x.count(2) && what < 5; c++) {
+                b.append(x.coat(c, what)).append(' ');
+            }
+            for (int s = 0; s < x.count(0) && what < 4; s++) {
+                b.append(x.seat(s, what)).append(' ');
+            }
+        }
+        return b.append(x.said(HeldCoats.NONE)).append(' ').append(x.harm(0, 60)).toString();
+    }
 }
