@@ -1024,11 +1024,11 @@ public final class HeldCoats {
         }
 
         boolean isWorn(int c) {
-            return law.hasMan(where[c]);
+            return where[c] >= 0 && where[c] < law.men;
         }
 
         boolean isLaid(int c) {
-            return law.hasSeat(where[c] - ON_SEAT);
+            return where[c] >= ON_SEAT && where[c] < ON_SEAT + law.seats;
         }
 
         int coatOn(int s) {
