@@ -8,6 +8,14 @@ final class Kit {
         + "coat fur ann 6 9;coat cape ann 2 30;coat rug bob 5 40;coat shawl cid 1 50;"
         + "cold 0 10;cold 4 2;summer 3;holds 4;moths 3;limit 300;";
 
+    /** As much of each sort as there may be: 8 SEATS, 6 MEN, 8 COATS, 8 'cold', each other LINE once. */
+    static final String FULL =
+        "seat sa 1;seat sb 2;seat sc 3;seat sd 4;seat se 5;seat sf 6;seat sg 7;seat sh 99;"
+        + "man ma 0;man mb 4;man mc 8;man md 12;man me 16;man mf 20;"
+        + "coat ca ma 0 1;coat cb mb 20 99;coat cc mc 3 50;coat cd md 4 50;coat ce me 5 50;coat cf mf 6 50;coat cg ma 7 50;coat ch mf 8 50;"
+        + "cold 0 40;cold 1 30;cold 2 20;cold 3 10;cold 4 0;cold 5 25;cold 6 35;cold 399 1;"
+        + "summer 10;holds 9;moths 1;limit 999;";
+
     private static int asked;
     private static int wrong;
 
@@ -16,6 +24,10 @@ final class Kit {
 
     interface Call {
         int answer();
+    }
+
+    interface Ask {
+        int of(HeldCoats x);
     }
 
     static void due(String what, long got, long want) {
@@ -84,6 +96,78 @@ final class Kit {
         return of(COURT);
     }
 
+    static HeldCoats full() {
+        return of(FULL);
+    }
+
+    /** The same CAPITAL, n DAYS later. */
+    static HeldCoats later(String text, int n) {
+        HeldCoats x = of(text);
+        pass(x, n);
+        return x;
+    }
+
+    static void pass(HeldCoats x, int n) {
+        for (int left = n; left > 0; left -= 60) {
+            due("14: days", x.days(Math.min(left, 60)), Math.min(left, 60));
+        }
+    }
+
+    static void capitalFault(String text, int kind, int place) {
+        HeldCoats x = new HeldCoats();
+        due("4: capital " + text, capital(x, text), -1 - place);
+        due("5: fault of " + text, x.fault(), kind);
+    }
+
+    static void bookFault(String text, int kind, int place) {
+        HeldCoats x = court();
+        due("36: book " + text, book(x, text, 1), -2 - place);
+        due("5: fault of " + text, x.fault(), kind);
+    }
+
+    static void sentenceFault(String text, int kind, int place) {
+        HeldCoats x = court();
+        due("38: sentence " + text, sentence(x, text), -1 - place);
+        due("5: fault of " + text, x.fault(), kind);
+    }
+
+    /** A call that answers so and leaves all that is so, all that was told last, and what can be undone. */
+    static void leavesAll(String what, Ask call, int want) {
+        leaves(what, call, want, true);
+    }
+
+    /** A call that answers so and leaves all but what was told last. */
+    static void leavesState(String what, Ask call, int want) {
+        leaves(what, call, want, false);
+    }
+
+    private static void leaves(String what, Ask call, int want, boolean lastToo) {
+        HeldCoats x = busy();
+        String before = all(x);
+        String last = last(x);
+        due(what, call.of(x), want);
+        due(what + ": all stays", all(x).equals(before), true);
+        if (lastToo) {
+            due(what + ": what was told last stays", last(x).equals(last), true);
+        }
+        due(what + ": no act more, none less", x.undo(), 2);
+    }
+
+    /** The court with some of everything: fur lies, shawl is kept, a SENTENCE, three acts, and an answer of each question. */
+    static HeldCoats busy() {
+        HeldCoats x = court();
+        sentence(x, "held or worth = 20");
+        x.best(0, 25);
+        x.share(0, 1, 2, 3);
+        hooks(x, 0, 9, 1);
+        x.rounds();
+        book(x, "day 2;fur lent ann;", 0);
+        x.lay(0, 0);
+        x.keep(3);
+        x.days(2);
+        return x;
+    }
+
     static int book(HeldCoats x, String text, int lives) {
         write(x, text);
         return x.book(lives);
@@ -111,6 +195,17 @@ final class Kit {
             bits |= 1 << x.said(k);
         }
         return bits;
+    }
+
+    /** What other calls told last, as one text. */
+    static String last(HeldCoats x) {
+        StringBuilder b = new StringBuilder();
+        b.append(x.fault()).append(' ').append(x.laid()).append(' ').append(x.turns()).append(' ').append(x.surely()).append(' ');
+        b.append(x.never()).append(' ').append(x.price()).append(' ').append(x.count(7)).append(' ');
+        for (int what = 0; what < 4; what++) {
+            b.append(x.told(what)).append(' ');
+        }
+        return b.toString();
     }
 
     /** All that is so, as one text. */
