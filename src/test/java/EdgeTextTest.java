@@ -366,6 +366,9 @@ public final class EdgeTextTest {
         Kit.bookFault("ann wears throne;", 3, 10);
         Kit.bookFault("ann wears sofa;", 3, 10);
         // a NAME where none can come, or a WORD that does not follow that sort
+        Kit.bookFault("ann;", 1, 3);
+        Kit.bookFault("fur;", 1, 3);
+        Kit.bookFault("ann fur;", 1, 4);
         Kit.bookFault("fur ann;", 1, 4);
         Kit.bookFault("fur sofa;", 1, 4);
         Kit.bookFault("fur wears ann;", 1, 4);

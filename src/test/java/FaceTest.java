@@ -32,7 +32,22 @@ public final class FaceTest {
             openFields += hidden(f) ? 0 : 1;
         }
         Kit.due("open fields", openFields, 1);
+        for (Class<?> inside : HeldCoats.class.getDeclaredClasses()) {
+            Kit.due(inside + " is static", Modifier.isStatic(inside.getModifiers()), true);
+            Kit.due(inside + " is not open", Modifier.isPublic(inside.getModifiers()) || Modifier.isProtected(inside.getModifiers()), false);
+            namesOfItsOwn(inside, open);
+        }
+        namesOfItsOwn(HeldCoats.class, open);
         Kit.finish("FaceTest");
+    }
+
+    private static void namesOfItsOwn(Class<?> holder, TreeSet<String> open) {
+        for (Method m : holder.getDeclaredMethods()) {
+            if (Modifier.isPrivate(m.getModifiers())) {
+                boolean borne = open.stream().anyMatch(o -> o.startsWith(m.getName() + "/"));
+                Kit.due(m + " bears a name of its own", borne, false);
+            }
+        }
     }
 
     private static boolean hidden(Member m) {
