@@ -1355,7 +1355,7 @@ public final class HeldCoats {
                 } else if (step[k] == OR && top >= 2) {
                     top--;
                     heap[top - 1] |= heap[top];
-                } else {
+                } else if (top < STEPS_MOST) {
                     heap[top] = seatsOfStep(k, state);
                     top++;
                 }
